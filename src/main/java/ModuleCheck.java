@@ -17,11 +17,25 @@ public final class ModuleCheck {
     private static final int NOTHING = 64;
     private static final int UNKNOWN = 0;
 
+    private static final int SIGNATURES = 1;
+    private static final int IMPORTS = 2;
+    private static final int OWN_FUNCTIONS = 3;
+    private static final int TABLES = 4;
+    private static final int MEMORIES = 5;
+    private static final int GLOBALS = 6;
+    private static final int EXPORTS = 7;
+    private static final int START = 8;
+    private static final int ELEMENTS = 9;
+    private static final int BODIES = 10;
+    private static final int DATA = 11;
+    private static final int TOLD_DATA = 12;
+    private static final int SECTIONS = 13;
+
     private static final int MOST_SIGNATURES = 64;
     private static final int MOST_PARAMETERS = 16;
     private static final int MOST_IMPORTS = 32;
     private static final int MOST_OWN_FUNCTIONS = 64;
-    private static final int MOST_GLOBALS = 32;
+    private static final int MOST_OWN_GLOBALS = 32;
     private static final int MOST_EXPORTS = 64;
     private static final int MOST_SEGMENTS = 32;
     private static final int MOST_IN_ROW = 256;
@@ -30,6 +44,12 @@ public final class ModuleCheck {
     private static final int MOST_LOCALS = 64;
     private static final int MOST_BLOCKS = 60;
     private static final int MOST_PAGES = 65536;
+
+    /* How many groups an S and an L have at most, and the highest last group without a sign. */
+    private static final int INT_GROUPS = 5;
+    private static final int INT_TOP = 7;
+    private static final int LONG_GROUPS = 10;
+    private static final int LONG_TOP = 0;
 
     private static final int FUNCTION = 0;
     private static final int TABLE = 1;
@@ -84,6 +104,12 @@ public final class ModuleCheck {
     private static final int TABLE_INIT = LONGER_FROM + 12;
     private static final int ELEM_DROP = LONGER_FROM + 13;
     private static final int TABLE_COPY = LONGER_FROM + 14;
+
+    /* How many items each section may have, by its number; those of no limit are bounded by the tray. */
+    private static final int[] MOST_ITEMS = {
+        1, MOST_SIGNATURES, MOST_IMPORTS, MOST_OWN_FUNCTIONS, MOST_IN_TRAY, MOST_IN_TRAY, MOST_OWN_GLOBALS,
+        MOST_EXPORTS, 1, MOST_SEGMENTS, MOST_IN_TRAY, MOST_SEGMENTS, 1
+    };
 
     private static final int[] HEADER = {0, 97, 115, 109, 1, 0, 0, 0};
 
@@ -280,12 +306,9 @@ public final class ModuleCheck {
             }
         }
 
-        private void skipInt() {
-            skipSigned(5, 7);
-        }
-
-        private void skipLong() {
-            skipSigned(10, 0);
+        /** How many items a row has. More than a tray has bytes are never all there, so they need no count. */
+        private int rowLength() {
+            return (int) Math.min(number(), MOST_IN_TRAY);
         }
 
         /** How many bytes follow, as a U tells it. */
@@ -305,13 +328,14 @@ public final class ModuleCheck {
             if (told < 1 || told > MOST_IN_NAME || told > end - at) {
                 fail(NOT_SO, where);
             }
-            for (int i = 0; i < told && fault == 0; i++) {
+            int length = fault == 0 ? (int) told : 0;
+            for (int i = 0; i < length && fault == 0; i++) {
                 int sign = octet();
                 if (sign < 33 || sign > 126) {
                     fail(NOT_SO, where);
                 }
             }
-            return fault == 0 ? (int) told : 0;
+            return fault == 0 ? length : 0;
         }
 
         private int outerName() {
@@ -363,40 +387,32 @@ public final class ModuleCheck {
         private final int[] parameters = new int[MOST_SIGNATURES * MOST_PARAMETERS];
         private final int[] results = new int[MOST_SIGNATURES];
         private final int[] functionSignatures = new int[MOST_IMPORTS + MOST_OWN_FUNCTIONS];
-        private final int[] globalTypes = new int[MOST_GLOBALS];
-        private final boolean[] globalChanges = new boolean[MOST_GLOBALS];
+        private final int[] globalTypes = new int[MOST_IMPORTS + MOST_OWN_GLOBALS];
+        private final boolean[] globalChanges = new boolean[MOST_IMPORTS + MOST_OWN_GLOBALS];
         private final int[] wrongAt = new int[ORDERS];
-        private int signatures;
-        private int imports;
+        private final int[] items = new int[SECTIONS];
         private int functions;
         private int importedFunctions;
         private int tables;
         private int memories;
         private int globals;
         private int importedGlobals;
-        private int exports;
-        private int elements;
-        private int data;
-        private long dataTold;
-        private int bodies;
+        private long toldData;
 
         private void clear() {
             for (int i = 0; i < wrongAt.length; i++) {
                 wrongAt[i] = -1;
             }
-            signatures = 0;
-            imports = 0;
+            for (int i = 0; i < items.length; i++) {
+                items[i] = 0;
+            }
             functions = 0;
             importedFunctions = 0;
             tables = 0;
             memories = 0;
             globals = 0;
             importedGlobals = 0;
-            exports = 0;
-            elements = 0;
-            data = 0;
-            dataTold = -1;
-            bodies = 0;
+            toldData = -1;
         }
 
         private void noteWrong(int order, int where) {
@@ -415,16 +431,17 @@ public final class ModuleCheck {
         }
 
         private void addParameter(int index, int type) {
-            int cell = signatures * MOST_PARAMETERS + index;
-            if (signatures < parameterCounts.length && index < MOST_PARAMETERS && cell < parameters.length) {
+            int signature = items[SIGNATURES];
+            int cell = signature * MOST_PARAMETERS + index;
+            if (signature < parameterCounts.length && index < MOST_PARAMETERS && cell < parameters.length) {
                 parameters[cell] = type;
-                parameterCounts[signatures] = index + 1;
+                parameterCounts[signature] = index + 1;
             }
         }
 
         private void addFunction(long signature) {
             if (functions < functionSignatures.length) {
-                functionSignatures[functions] = signature < signatures ? (int) signature : -1;
+                functionSignatures[functions] = signature < items[SIGNATURES] ? (int) signature : -1;
                 functions++;
             }
         }
@@ -435,10 +452,6 @@ public final class ModuleCheck {
                 globalChanges[globals] = changes;
                 globals++;
             }
-        }
-
-        private int ownFunctions() {
-            return functions - importedFunctions;
         }
 
         /** The number of a function's signature; -1 if there is no such function, or none of that number. */
@@ -519,90 +532,87 @@ public final class ModuleCheck {
         }
 
         private void finish() {
-            fitBodies();
-            fitData();
+            fit(BODIES);
+            fit(DATA);
         }
 
         private void readSection() {
             int section = readSectionNumber();
             int moduleEnd = in.enter();
-            long items = isRow(section) ? in.number() : 1;
-            for (long i = 0; i < items && in.fault == 0; i++) {
+            int items = isRow(section) ? in.rowLength() : 1;
+            for (int i = 0; i < items && in.fault == 0; i++) {
+                refuseBeyond(i, MOST_ITEMS[section]);
                 switch (section) {
-                    case 1:
+                    case SIGNATURES:
                         readSignature();
                         break;
-                    case 2:
+                    case IMPORTS:
                         readImport();
                         break;
-                    case 3:
-                        readFunction();
+                    case OWN_FUNCTIONS:
+                        readSignatureOfFunction(IN_FUNCTIONS);
                         break;
-                    case 4:
+                    case TABLES:
                         readTable();
                         break;
-                    case 5:
+                    case MEMORIES:
                         readMemory();
                         break;
-                    case 6:
+                    case GLOBALS:
                         readGlobal();
                         break;
-                    case 7:
+                    case EXPORTS:
                         readExport();
                         break;
-                    case 8:
+                    case START:
                         readStart();
                         break;
-                    case 9:
+                    case ELEMENTS:
                         readElement();
                         break;
-                    case 10:
-                        bodies.readBody();
+                    case BODIES:
+                        bodies.readBody(i);
                         break;
-                    case 11:
+                    case DATA:
                         readData();
                         break;
-                    case 12:
-                        facts.dataTold = in.number();
+                    case TOLD_DATA:
+                        facts.toldData = in.number();
                         break;
                     default:
                         in.name();
                         in.skipRest();
                         break;
                 }
+                facts.items[section]++;
             }
             in.leave(moduleEnd);
-            if (section == 10) {
-                fitBodies();
-            } else if (section == 11) {
-                fitData();
-            }
+            fit(section);
         }
 
         private int readSectionNumber() {
             int where = in.at;
-            int section = in.octetWithin(0, SECTION_ORDER.length - 1);
-            if (section > 0 && section < SECTION_ORDER.length) {
-                if (SECTION_ORDER[section] <= lastInOrder) {
-                    in.fail(NOT_SO, where);
-                }
-                lastInOrder = SECTION_ORDER[section];
+            int section = in.octetWithin(0, SECTIONS - 1);
+            if (section <= 0 || section >= SECTIONS) {
+                return 0;
             }
+            if (SECTION_ORDER[section] <= lastInOrder) {
+                in.fail(NOT_SO, where);
+            }
+            lastInOrder = SECTION_ORDER[section];
             return section;
         }
 
         private static boolean isRow(int section) {
-            return section != 0 && section != 8 && section != 12;
+            return section != 0 && section != START && section != TOLD_DATA;
         }
 
-        private void fitBodies() {
-            if (facts.bodies != facts.ownFunctions()) {
+        /** Looks, where a section ends, if another one told of it. */
+        private void fit(int section) {
+            if (section == BODIES && facts.items[BODIES] != facts.items[OWN_FUNCTIONS]) {
                 in.fail(NOT_SO, in.at);
             }
-        }
-
-        private void fitData() {
-            if (facts.dataTold >= 0 && facts.data != facts.dataTold) {
+            if (section == DATA && facts.toldData >= 0 && facts.items[DATA] != facts.toldData) {
                 in.fail(NOT_SO, in.at);
             }
         }
@@ -614,29 +624,26 @@ public final class ModuleCheck {
         }
 
         private void readSignature() {
-            refuseBeyond(facts.signatures, MOST_SIGNATURES);
             in.octetWithin(96, 96);
-            int signature = facts.signatures;
+            int signature = facts.items[SIGNATURES];
             if (in.fault != 0 || signature >= facts.results.length) {
                 return;
             }
             facts.parameterCounts[signature] = 0;
             facts.results[signature] = NOTHING;
-            long parameters = in.number();
+            int parameters = in.rowLength();
             for (int i = 0; i < parameters && in.fault == 0; i++) {
                 refuseBeyond(i, MOST_PARAMETERS);
                 facts.addParameter(i, in.type());
             }
-            long results = in.number();
+            int results = in.rowLength();
             for (int i = 0; i < results && in.fault == 0; i++) {
                 refuseBeyond(i, 1);
                 facts.results[signature] = in.type();
             }
-            facts.signatures++;
         }
 
         private void readImport() {
-            refuseBeyond(facts.imports, MOST_IMPORTS);
             int where = in.at;
             in.outerName();
             in.outerName();
@@ -660,13 +667,12 @@ public final class ModuleCheck {
                     facts.importedGlobals++;
                     break;
             }
-            facts.imports++;
         }
 
         private void readSignatureOfFunction(int order) {
             int where = in.at;
             long signature = in.number();
-            if (signature >= facts.signatures) {
+            if (signature >= facts.items[SIGNATURES]) {
                 facts.noteWrong(order, where);
             }
             facts.addFunction(signature);
@@ -696,11 +702,6 @@ public final class ModuleCheck {
             }
         }
 
-        private void readFunction() {
-            refuseBeyond(facts.ownFunctions(), MOST_OWN_FUNCTIONS);
-            readSignatureOfFunction(IN_FUNCTIONS);
-        }
-
         private void readTable() {
             addTable(in.at);
             in.octetWithin(112, 112);
@@ -713,7 +714,6 @@ public final class ModuleCheck {
         }
 
         private void readGlobal() {
-            refuseBeyond(facts.globals, MOST_GLOBALS);
             int type = in.type();
             boolean changes = in.octetWithin(0, 1) == 1;
             readConstant(IN_GLOBALS, type);
@@ -725,11 +725,11 @@ public final class ModuleCheck {
             int found = UNKNOWN;
             switch (in.octet()) {
                 case INT_CONST:
-                    in.skipInt();
+                    in.skipSigned(INT_GROUPS, INT_TOP);
                     found = INT;
                     break;
                 case LONG_CONST:
-                    in.skipLong();
+                    in.skipSigned(LONG_GROUPS, LONG_TOP);
                     found = LONG;
                     break;
                 case GLOBAL_GET:
@@ -749,7 +749,6 @@ public final class ModuleCheck {
         }
 
         private void readExport() {
-            refuseBeyond(facts.exports, MOST_EXPORTS);
             int where = in.at;
             int length = in.outerName();
             int start = in.at - length;
@@ -762,15 +761,15 @@ public final class ModuleCheck {
             if (isExported(start, length)) {
                 facts.noteWrong(IN_EXPORTS, where);
             }
-            if (facts.exports < nameStarts.length) {
-                nameStarts[facts.exports] = start;
-                nameLengths[facts.exports] = length;
-                facts.exports++;
+            int export = facts.items[EXPORTS];
+            if (export < nameStarts.length) {
+                nameStarts[export] = start;
+                nameLengths[export] = length;
             }
         }
 
         private boolean isExported(int start, int length) {
-            for (int i = 0; i < facts.exports && i < nameStarts.length; i++) {
+            for (int i = 0; i < facts.items[EXPORTS] && i < nameStarts.length; i++) {
                 if (nameLengths[i] == length && in.sameBytes(nameStarts[i], start, length)) {
                     return true;
                 }
@@ -787,7 +786,6 @@ public final class ModuleCheck {
         }
 
         private void readElement() {
-            refuseBeyond(facts.elements, MOST_SEGMENTS);
             int where = in.at;
             switch (in.octet()) {
                 case 0:
@@ -805,12 +803,11 @@ public final class ModuleCheck {
                     break;
             }
             readRowOfFunctions();
-            facts.elements++;
         }
 
         private void readRowOfFunctions() {
             int where = in.at;
-            long many = in.number();
+            int many = in.rowLength();
             if (many > MOST_IN_ROW) {
                 in.fail(TOO_MUCH, where);
             }
@@ -823,7 +820,6 @@ public final class ModuleCheck {
         }
 
         private void readData() {
-            refuseBeyond(facts.data, MOST_SEGMENTS);
             int where = in.at;
             if (in.octetWithin(0, 1) == 0) {
                 if (facts.memories == 0) {
@@ -833,7 +829,6 @@ public final class ModuleCheck {
             }
             int length = in.length();
             in.at += length;
-            facts.data++;
         }
     }
 
@@ -859,27 +854,25 @@ public final class ModuleCheck {
             followed = true;
         }
 
-        private void readBody() {
+        private void readBody(int body) {
             int sectionEnd = in.enter();
-            // A body without a function of its own, or of no signature, is a fault elsewhere.
-            int signature = facts.bodies < facts.ownFunctions()
-                ? facts.signatureOf(facts.importedFunctions + facts.bodies) : -1;
+            // A body beyond the own functions, or of a signature that is not there, is a fault elsewhere.
+            int signature = facts.signatureOf(facts.importedFunctions + body);
             if (signature < 0) {
                 followed = false;
             }
             typing.begin(signature);
             readGroups();
-            answers.beginBody(facts.bodies, typing.localCount);
+            answers.beginBody(body, typing.localCount);
             for (int i = 0; i < MOST_IN_TRAY && frames.depth >= 0 && in.fault == 0; i++) {
                 readInstruction();
             }
-            answers.endBody(facts.bodies);
+            answers.endBody(body);
             in.leave(sectionEnd);
-            facts.bodies++;
         }
 
         private void readGroups() {
-            long groups = in.number();
+            int groups = in.rowLength();
             long declared = 0;
             for (int i = 0; i < groups && in.fault == 0; i++) {
                 int where = in.at;
@@ -897,7 +890,11 @@ public final class ModuleCheck {
         private void readInstruction() {
             next.readNumber(in);
             lookWhereItStands();
-            next.readArguments(in);
+            if (next.number == BR_TABLE) {
+                next.readLabels(in);
+            } else {
+                next.readArguments(in);
+            }
             if (in.fault != 0) {
                 return;
             }
@@ -925,7 +922,7 @@ public final class ModuleCheck {
                     break;
                 case MEMORY_INIT:
                 case DATA_DROP:
-                    if (facts.dataTold < 0) {
+                    if (facts.toldData < 0) {
                         in.fail(NOT_SO, next.where);
                     }
                     break;
@@ -1005,9 +1002,6 @@ public final class ModuleCheck {
                 case ELEM_DROP:
                     argument = in.number();
                     break;
-                case BR_TABLE:
-                    readLabels(in);
-                    break;
                 case CALL_INDIRECT:
                 case MEMORY_INIT:
                 case TABLE_INIT:
@@ -1025,10 +1019,10 @@ public final class ModuleCheck {
                     in.octetWithin(0, 0);
                     break;
                 case INT_CONST:
-                    in.skipInt();
+                    in.skipSigned(INT_GROUPS, INT_TOP);
                     break;
                 case LONG_CONST:
-                    in.skipLong();
+                    in.skipSigned(LONG_GROUPS, LONG_TOP);
                     break;
                 default:
                     if (number >= FIRST_ACCESS && number <= LAST_ACCESS) {
@@ -1041,7 +1035,7 @@ public final class ModuleCheck {
 
         private void readLabels(Input in) {
             int rowAt = in.at;
-            long many = in.number();
+            int many = in.rowLength();
             if (many > MOST_IN_ROW) {
                 in.fail(TOO_MUCH, rowAt);
             }
@@ -1262,7 +1256,7 @@ public final class ModuleCheck {
             } else {
                 frames.demand(facts.tables > 0);
                 frames.take(INT);
-                signature = called < facts.signatures ? (int) called : -1;
+                signature = called < facts.items[SIGNATURES] ? (int) called : -1;
             }
             frames.demand(signature >= 0);
             for (int i = facts.parameterCount(signature) - 1; i >= 0; i--) {
@@ -1364,10 +1358,10 @@ public final class ModuleCheck {
 
         private void followLonger(int number, long segment) {
             if (number == MEMORY_INIT || number == DATA_DROP) {
-                frames.demand(segment < facts.dataTold);
+                frames.demand(segment < facts.toldData);
             }
             if (number == TABLE_INIT || number == ELEM_DROP) {
-                frames.demand(segment < facts.elements);
+                frames.demand(segment < facts.items[ELEMENTS]);
             }
             if (number == MEMORY_INIT || number == MEMORY_COPY || number == MEMORY_FILL) {
                 frames.demand(facts.memories > 0);
@@ -1385,7 +1379,7 @@ public final class ModuleCheck {
 
     /** What is answered about a module; one is kept while another is filled. */
     private static final class Answers {
-        private final int[] counts = new int[12];
+        private final int[] counts = new int[SECTIONS];
         private final int[] firstCodes = new int[MOST_OWN_FUNCTIONS];
         private final int[] codeCounts = new int[MOST_OWN_FUNCTIONS];
         private final int[] localCounts = new int[MOST_OWN_FUNCTIONS];
@@ -1416,18 +1410,10 @@ public final class ModuleCheck {
 
         private void fillCounts(Facts facts) {
             for (int i = 0; i < counts.length; i++) {
-                counts[i] = -1;
+                boolean isAnswered = i >= SIGNATURES && i <= DATA && i != START && i != BODIES;
+                counts[i] = isAnswered ? facts.items[i] : -1;
             }
-            counts[1] = facts.signatures;
-            counts[2] = facts.imports;
-            counts[3] = facts.ownFunctions();
-            counts[4] = facts.tables;
-            counts[5] = facts.memories;
-            counts[6] = facts.globals;
-            counts[7] = facts.exports;
-            counts[9] = facts.elements;
-            counts[11] = facts.data;
-            functions = facts.ownFunctions();
+            functions = facts.items[OWN_FUNCTIONS];
         }
 
         private void copy(Answers other) {

@@ -37,7 +37,7 @@ public final class AnswersTest extends Mod {
             section(2, row(5, b(1, 65, 1, 65, 0, 0), b(1, 65, 1, 66, 1, 112, 0, 0), b(1, 65, 1, 67, 2, 0, 0),
                 b(1, 65, 1, 68, 3, I, 0), b(1, 65, 1, 69, 3, L, 1))),
             section(3, b(1, 0)), section(6, b(1, I, 0, 65, 0, 11)), section(10, b(1, 2, 0, 11)));
-        counted("imports", Expect.fine("imports", module), 1, 5, 1, 1, 1, 3, 0, 0, 0);
+        counted("imports", Expect.fine("imports", module), 1, 5, 1, 0, 0, 1, 0, 0, 0);
     }
 
     private static void sameCodes(ModuleCheck check, int f, int... due) {

@@ -114,6 +114,7 @@ public final class FormTest extends Mod {
             b(1, 65, 1, 65, 2, 1, 0, 0), b(1, 65, 1, 65, 3, I, 0), b(1, 65, 1, 65, 3, L, 1)))));
         Expect.fault("import 4", 1, module(PLAIN, section(2, b(1, 1, 65, 1, 65, M, 4, 0))));
         Expect.fault("import table 111", 1, module(section(2, b(1, 1, 65, 1, 65, 1, M, 111, 0, 0))));
+        Expect.fault("import table 113", 1, module(section(2, b(1, 1, 65, 1, 65, 1, M, 113, 0, 0))));
         Expect.fault("import limits 2", 1, module(section(2, b(1, 1, 65, 1, 65, 2, M, 2, 0, 0))));
         Expect.fault("import global type", 1, module(section(2, b(1, 1, 65, 1, 65, 3, M, 64, 0))));
         Expect.fault("import global change", 1, module(section(2, b(1, 1, 65, 1, 65, 3, I, M, 2))));

@@ -58,9 +58,9 @@ public final class LimitTest extends Mod {
         Expect.fault("33 globals", 4, module(section(6, row(33, times(32, global), b(M), global))));
         Expect.fault("33rd global wrong in form", 4, module(section(6, row(33, times(32, global), b(M, 1)))));
         int[] two = section(2, row(2, times(2, 1, 97, 1, 103, 3, I, 0)));
-        Expect.fine("32 globals with the imported", module(two, section(6, row(30, times(30, global)))));
-        Expect.fault("33 globals with the imported", 4,
-            module(two, section(6, row(31, times(30, global), b(M), global))));
+        Expect.fine("32 globals beside the imported", module(two, section(6, row(32, times(32, global)))));
+        Expect.fault("33 globals beside the imported", 4,
+            module(two, section(6, row(33, times(32, global), b(M), global))));
     }
 
     private static int[] exportNames(int many) {

@@ -66,6 +66,8 @@ public final class MeaningTest extends Mod {
         Expect.fault("second memory", 2, module(section(5, b(2, 0, 0, M, 0, 0))));
         Expect.fault("second memory, one imported", 2, module(section(2, row(1, memory)), section(5, b(1, M, 0, 0))));
         Expect.fault("second imported memory", 2, module(section(2, row(2, memory, cat(b(M), memory)))));
+        Expect.fault("second table before second memory", 2,
+            module(section(2, row(4, memory, memory, table, cat(b(M), table)))));
         Expect.fault("many tables", 2, module(section(4, row(100, b(112, 0, 0, M), times(99, 112, 0, 0)))));
     }
 
@@ -110,6 +112,9 @@ public final class MeaningTest extends Mod {
         Expect.fault("name twice", 2, exported(first, b(1, 66, 2, 0), b(M, 1, 65, 3, 0)));
         Expect.fault("name twice, another U", 2, exported(first, b(M, 129, 0, 65, 3, 0)));
         Expect.fault("name twice, and not there", 2, exported(first, b(1, 65, 1, M, 1)));
+        ModuleCheck twice = Expect.fine("once", exported(first));
+        Expect.feed(twice, exported(first));
+        Expect.same("the same name in the next module", twice.check(), 0);
         Expect.fine("names that begin alike", exported(b(2, 65, 65, 0, 0), first, b(3, 65, 65, 65, 0, 0),
             b(2, 65, 66, 0, 0)));
     }

@@ -132,6 +132,11 @@ public final class TypingTest extends Mod {
         wrong("elem.drop, far off", 0, b(M, 252, 13, 255, 255, 255, 255, 15));
         wrong("table.init, not there", 0, INT, INT, INT, b(M, 252, 12, 2, 0));
         Expect.fine("data.drop and elem.drop without memory and table", bare(252, 9, 0, 252, 13, 0));
+        int[] before = module(section(1, row(1, signature(b(), b()))), section(3, b(1, 0)), section(12, b(0)));
+        Expect.fault("data.drop where 12 tells none", 2,
+            cat(before, section(10, b(1), body(NO_LOCALS, M, 252, 9, 0, 11))));
+        Expect.fault("memory.init where 12 tells none", 2,
+            cat(before, section(10, b(1), body(NO_LOCALS, 0, M, 252, 8, 0, 0, 11))));
     }
 
     /** No table and no memory, but a passive data and a passive element segment. */
@@ -287,6 +292,8 @@ public final class TypingTest extends Mod {
         wrong("br_table, nothing and int", I, b(2, 64), INT, INT, b(M, 14, 1, 0, 1, 11), INT);
         wrong("br_table, two types, unreachable", I, b(2, L, 0, M, 14, 1, 0, 1, 11, 26), INT);
         wrong("br_table, the middle one", I, b(2, L, 2, I, 0, M, 14, 2, 0, 1, 0, 11, 26), LONG, b(11, 26), INT);
+        fine("br_table behind one of more labels", 0, b(2, 64, 2, 64), INT, b(14, 2, 0, 1, 2, 11, 11), INT,
+            b(14, 0, 0));
         fine("br_table of a loop and a block", 0, b(3, I, 2, 64), INT, b(14, 1, 0, 1, 11), INT, b(11, 26));
     }
 
