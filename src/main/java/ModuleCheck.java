@@ -56,18 +56,24 @@ public final class ModuleCheck {
     private static final int MEMORY = 2;
     private static final int GLOBAL = 3;
 
-    /* The orders of what means nothing: what stands under a smaller number comes first. */
+    /* What means nothing, in the document's order: what stands under a smaller number comes first. */
     private static final int IN_IMPORTS = 0;
     private static final int IN_FUNCTIONS = 1;
-    private static final int IN_TABLES = 2;
-    private static final int IN_MEMORIES = 3;
-    private static final int IN_GLOBALS = 4;
-    private static final int IN_EXPORTS = 5;
-    private static final int IN_START = 6;
-    private static final int IN_ELEMENTS = 7;
-    private static final int IN_DATA = 8;
-    private static final int IN_BODIES = 9;
-    private static final int ORDERS = 10;
+    private static final int SECOND_TABLE = 2;
+    private static final int TABLE_LIMITS = 3;
+    private static final int SECOND_MEMORY = 4;
+    private static final int MEMORY_LIMITS = 5;
+    private static final int GLOBAL_CONSTANT = 6;
+    private static final int EXPORT_NOT_THERE = 7;
+    private static final int EXPORT_TWICE = 8;
+    private static final int IN_START = 9;
+    private static final int ELEMENT_WITHOUT_TABLE = 10;
+    private static final int ELEMENT_CONSTANT = 11;
+    private static final int ELEMENT_FUNCTION = 12;
+    private static final int DATA_WITHOUT_MEMORY = 13;
+    private static final int DATA_CONSTANT = 14;
+    private static final int IN_BODIES = 15;
+    private static final int ORDERS = 16;
 
     private static final int UNREACHABLE = 0;
     private static final int BLOCK = 2;
@@ -691,32 +697,32 @@ public final class ModuleCheck {
         private void addTable(int where) {
             facts.tables++;
             if (facts.tables > 1) {
-                facts.noteWrong(IN_TABLES, where);
+                facts.noteWrong(SECOND_TABLE, where);
             }
         }
 
         private void addMemory(int where) {
             facts.memories++;
             if (facts.memories > 1) {
-                facts.noteWrong(IN_MEMORIES, where);
+                facts.noteWrong(SECOND_MEMORY, where);
             }
         }
 
         private void readTable() {
             addTable(in.at);
             in.octetWithin(112, 112);
-            readLimits(IN_TABLES, false);
+            readLimits(TABLE_LIMITS, false);
         }
 
         private void readMemory() {
             addMemory(in.at);
-            readLimits(IN_MEMORIES, true);
+            readLimits(MEMORY_LIMITS, true);
         }
 
         private void readGlobal() {
             int type = in.type();
             boolean changes = in.octetWithin(0, 1) == 1;
-            readConstant(IN_GLOBALS, type);
+            readConstant(GLOBAL_CONSTANT, type);
             facts.addGlobal(type, changes);
         }
 
@@ -756,10 +762,10 @@ public final class ModuleCheck {
             int indexAt = in.at;
             long index = in.number();
             if (index >= facts.countOfKind(kind)) {
-                facts.noteWrong(IN_EXPORTS, indexAt);
+                facts.noteWrong(EXPORT_NOT_THERE, indexAt);
             }
             if (isExported(start, length)) {
-                facts.noteWrong(IN_EXPORTS, where);
+                facts.noteWrong(EXPORT_TWICE, where);
             }
             int export = facts.items[EXPORTS];
             if (export < nameStarts.length) {
@@ -790,9 +796,9 @@ public final class ModuleCheck {
             switch (in.octet()) {
                 case 0:
                     if (facts.tables == 0) {
-                        facts.noteWrong(IN_ELEMENTS, where);
+                        facts.noteWrong(ELEMENT_WITHOUT_TABLE, where);
                     }
-                    readConstant(IN_ELEMENTS, INT);
+                    readConstant(ELEMENT_CONSTANT, INT);
                     break;
                 case 1:
                 case 3:
@@ -814,7 +820,7 @@ public final class ModuleCheck {
             for (int i = 0; i < many && in.fault == 0; i++) {
                 int indexAt = in.at;
                 if (in.number() >= facts.functions) {
-                    facts.noteWrong(IN_ELEMENTS, indexAt);
+                    facts.noteWrong(ELEMENT_FUNCTION, indexAt);
                 }
             }
         }
@@ -823,9 +829,9 @@ public final class ModuleCheck {
             int where = in.at;
             if (in.octetWithin(0, 1) == 0) {
                 if (facts.memories == 0) {
-                    facts.noteWrong(IN_DATA, where);
+                    facts.noteWrong(DATA_WITHOUT_MEMORY, where);
                 }
-                readConstant(IN_DATA, INT);
+                readConstant(DATA_CONSTANT, INT);
             }
             int length = in.length();
             in.at += length;

@@ -17,6 +17,7 @@ public final class MeaningTest extends Mod {
         elements();
         data();
         orders();
+        ordersWithin();
         Expect.done("MeaningTest");
     }
 
@@ -185,6 +186,36 @@ public final class MeaningTest extends Mod {
             section(9, b(1, 1, 0, 1), m[7], wrong[7] ? b(2) : b(0)),
             section(10, b(1), sized(b(0), m[9], wrong[9] ? b(26, 11) : b(11))),
             section(11, b(1, 0), m[8], wrong[8] ? b(66, 0, 11, 0) : b(65, 0, 11, 0)));
+    }
+
+    /** Where a section's items are wrong in several ways, the way that is listed first, not the item, is told. */
+    private static void ordersWithin() {
+        Expect.fault("second table before limits", 2, module(section(4, b(2, 112, 1, 2, 1, M, 112, 0, 0))));
+        Expect.fault("second table before its own limits", 2, module(section(4, b(2, 112, 0, 0, M, 112, 1, 2, 1))));
+        Expect.fault("third table's limits", 2, module(section(4, b(3, 112, 0, 0, M, 112, 0, 0, 112, 1, 2, 1))));
+        Expect.fault("imported limits before a second table", 2,
+            module(section(2, row(2, imported(1, 112, M, 1, 2, 1), imported(1, 112, 0, 0)))));
+        Expect.fault("table limits before a second memory", 2,
+            module(section(4, b(1, 112, M, 1, 2, 1)), section(5, b(2, 0, 0, 0, 0))));
+        Expect.fault("second memory before limits", 2, module(section(5, b(2, 1, 2, 1, M, 0, 0))));
+        Expect.fault("second memory before its own limits", 2, module(section(5, b(2, 0, 0, M, 1, 2, 1))));
+        Expect.fault("second memory, one imported, before limits", 2,
+            module(section(2, row(1, imported(2, 0, 0))), section(5, b(1, M, 0, 129, 128, 4))));
+        Expect.fault("memory limits before a global", 2,
+            module(section(5, b(1, M, 1, 2, 1)), section(6, b(1, I, 0, 66, 0, 11))));
+        Expect.fault("globals one by one", 2, module(section(6, b(2, I, 0, M, 35, 0, 11, I, 0, 66, 0, 11))));
+        int[] first = b(1, 65, 0, 0);
+        Expect.fault("export not there before a name twice", 2, exported(first, first, b(1, 66, 0, M, 2), b(1, 67, 1, 1)));
+        Expect.fault("name twice before the start", 2,
+            module(MEMORY, section(7, b(2, 1, 65, 2, 0, M, 1, 65, 2, 0)), section(8, b(0))));
+        Expect.fault("active without table before a function", 2,
+            element(b(), 3, 1, 0, 1, 9, M, 0, 65, 0, 11, 1, 9, 0, 66, 0, 11, 0));
+        Expect.fault("element's constant before a function", 2,
+            element(TABLE, 3, 0, 65, 0, 11, 1, 9, 1, 0, 1, 9, 0, M, 66, 0, 11, 1, 9));
+        Expect.fault("element's function before data", 2,
+            module(section(9, b(1, 1, 0, 1, M, 0)), section(11, b(1, 0, 65, 0, 11, 0))));
+        Expect.fault("active without memory before a constant", 2,
+            dated(b(), 3, 1, 0, M, 0, 66, 0, 11, 0, 0, 66, 0, 11, 0));
     }
 
     private static void orders() {
