@@ -10,6 +10,7 @@ public final class AnswersTest extends Mod {
         locals();
         kept();
         mostFunctions();
+        manyModules();
         Expect.done("AnswersTest");
     }
 
@@ -124,5 +125,17 @@ public final class AnswersTest extends Mod {
         ModuleCheck large = Expect.fine("a large body", alone(most));
         Expect.same("instructions of a large body", large.instructions(0), 9901);
         Expect.same("code in a large body", large.code(0, 9900), 11);
+    }
+
+    /** More instructions in all than one tray can hold; the promised 512 calls do not get so far. */
+    private static void manyModules() {
+        ModuleCheck check = new ModuleCheck();
+        for (int i = 1; i <= 25; i++) {
+            Expect.feed(check, alone(cat(times(900 + i, 1), b(0, 11))));
+            Expect.same("module " + i, check.check(), 0);
+            Expect.same("instructions of module " + i, check.instructions(0), 902 + i);
+            Expect.same("unreachable of module " + i, check.code(0, 900 + i), 0);
+            Expect.same("end of module " + i, check.code(0, 901 + i), 11);
+        }
     }
 }

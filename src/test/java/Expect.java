@@ -42,6 +42,15 @@ final class Expect {
         same(what + ", place()", check.place(), Mod.placeOfMark(marked));
     }
 
+    /** For a loop over what is right and what is wrong: no fault where there is no mark. */
+    static void answer(String what, int fault, int[] marked) {
+        if (fault == 0) {
+            fine(what, marked);
+        } else {
+            fault(what, fault, marked);
+        }
+    }
+
     static void done(String test) {
         System.out.println(test + ": " + (asked - wrong) + " of " + asked + " answers are as due");
         if (wrong != 0) {
