@@ -16,6 +16,11 @@ public final class BoundaryTest extends Mod {
         emptySections();
         ends();
         otherSections();
+        startInOrder();
+        kindsOfImportsAndExports();
+        constants();
+        bodiesAndData();
+        longerInstructions();
         labelRows();
         localsAndParameters();
         depthOfBlocks();
@@ -257,6 +262,108 @@ public final class BoundaryTest extends Mod {
         for (int section = 13; section < 256; section++) {
             Expect.fault("section " + section, 1, module(other, b(M, section, 1, 0)));
         }
+    }
+
+    /* ".. in the order 1 2 3 4 5 6 7 8 9 12 10 11": 8, which is no row. */
+    private static void startInOrder() {
+        int[] before = module(PLAIN, section(2, b(1, 1, 97, 1, 98, 0, 0)));
+        int[] start = section(8, b(0));
+        for (int each : new int[] {3, 4, 5, 6, 7}) {
+            Expect.fine("the start behind " + each, cat(before, section(each, b(0)), start));
+            Expect.fault(each + " behind the start", 1, cat(before, start, b(M), section(each, b(0))));
+        }
+        for (int each : new int[] {9, 12, 10, 11}) {
+            Expect.fine(each + " behind the start", cat(before, start, section(each, b(0))));
+            Expect.fault("the start behind " + each, 1, cat(before, section(each, b(0)), b(M), start));
+        }
+        Expect.fault("1 behind the start", 1, cat(before, start, b(M), PLAIN));
+        Expect.fault("the start twice", 1, cat(before, start, section(0, b(1, 65)), b(M), start));
+    }
+
+    /* "0 U .., 1 112 LIMITS .., 2 LIMITS .. or 3 TYPE and 0 or 1" and "0 .. 3 (as imports), U" */
+    private static void kindsOfImportsAndExports() {
+        for (int kind = 4; kind < 256; kind++) {
+            Expect.fault("import of kind " + kind, 1, module(PLAIN, section(2, b(1, 1, 97, 1, 98, M, kind, 0, 0))));
+            Expect.fault("export of kind " + kind, 1, module(PLAIN, section(7, b(1, 1, 97, M, kind, 0))));
+        }
+        for (int type = 0; type < 256; type++) {
+            int fault = type == 112 ? 0 : 1;
+            int[] mark = fault == 0 ? b() : b(M);
+            Expect.answer("imported table " + type, fault, module(section(2, b(1, 1, 97, 1, 98, 1), mark, b(type, 0, 0))));
+            Expect.answer("table " + type, fault, module(section(4, b(1), mark, b(type, 0, 0))));
+            int[] signatureMark = type == 96 ? b() : b(M);
+            Expect.answer("signature " + type, type == 96 ? 0 : 1,
+                module(section(1, b(1), signatureMark, b(type, 0, 0))));
+        }
+    }
+
+    /* "CONSTANT: one of 65 S, 66 L, 35 U, and 11." */
+    private static void constants() {
+        int[] imports = section(2, b(1, 1, 97, 1, 98, 3, I, 0));
+        for (int first = 0; first < 256; first++) {
+            if (first == 65 || first == 35) {
+                Expect.fine("constant " + first, module(imports, section(6, b(1, I, 0, first, 0, 11))));
+            } else if (first == 66) {
+                Expect.fine("constant 66", module(imports, section(6, b(1, L, 0, first, 0, 11))));
+            } else {
+                Expect.fault("constant " + first, 1, module(imports, section(6, b(1, I, 0, M, first, 0, 11))));
+            }
+            if (first != 11) {
+                Expect.fault("closed by " + first, 1, module(imports, section(6, b(1, I, 0, 65, 0, M, first))));
+                Expect.fault("35 closed by " + first, 1, module(imports, section(6, b(1, I, 0, 35, 0, M, first))));
+            }
+        }
+        Expect.fault("11 alone", 1, module(imports, section(6, b(1, I, 0, M, 11))));
+        Expect.fault("a wrong constant, rightly closed, of a passive row", 1,
+            module(section(9, b(1, 0, M, 1, 0, 11, 0))));
+    }
+
+    /* "There are as many bodies as section 3 has numbers, and as many data as section 12 tells, if it is there" */
+    private static void bodiesAndData() {
+        Expect.fine("no bodies without 3", module(section(10, b(0))));
+        Expect.fine("no numbers without 10", module(section(3, b(0))));
+        Expect.fine("12 of none without 11", module(section(12, b(0))));
+        Expect.fine("12 of none and 11 of none", module(section(12, b(0)), section(11, b(0))));
+        Expect.fine("11 of two without 12", module(section(11, b(2, 1, 0, 1, 0))));
+        int[] other = section(0, b(1, 65));
+        for (int numbers = 0; numbers <= 3; numbers++) {
+            for (int bodies = 0; bodies <= 3; bodies++) {
+                int[] mark = numbers == bodies ? b() : b(M);
+                Expect.answer(numbers + " numbers, " + bodies + " bodies", numbers == bodies ? 0 : 1, module(PLAIN,
+                    section(3, row(numbers, times(numbers, 0))), section(10, row(bodies, times(bodies, 2, 0, 11))),
+                    mark, other));
+                Expect.answer(numbers + " told, " + bodies + " data", numbers == bodies ? 0 : 1, module(
+                    section(12, b(numbers)), section(11, row(bodies, times(bodies, 1, 0))), mark, other));
+            }
+        }
+        Expect.fault("32 told, 31 there", 1, module(section(12, b(32)), section(11, row(31, times(31, 1, 0))), b(M)));
+        Expect.fine("32 told, 32 there", module(section(12, b(32)), section(11, row(32, times(32, 1, 0)))));
+        Expect.fault("33 told, 33 there", 4,
+            module(section(12, b(33)), section(11, row(33, times(32, 1, 0), b(M, 1, 0)))));
+        Expect.fault("256 told, none there", 1, module(section(12, b(128, 2)), section(11, b(0)), b(M)));
+        Expect.fault("4294967295 told, none there", 1, module(section(12, HIGHEST), section(11, b(0)), b(M)));
+    }
+
+    /* "(the number behind 252 is a U)": 8 to 14 are there. */
+    private static void longerInstructions() {
+        int[][] behind = {{2, 0}, {2}, {0, 0}, {0}, {1, 0}, {1}, {0, 0}};
+        for (int second = 0; second < 300; second++) {
+            if (second >= 8 && second <= 14) {
+                int[] rest = behind[second - 8];
+                for (int more = 0; more < 4; more++) {
+                    int[] number = more == 0 ? b(second) : cat(b(second + 128), times(more, 128), b(0));
+                    ModuleCheck check = Expect.fine("252 " + second + " of " + number.length + " bytes",
+                        around(b(), b(), NO_LOCALS, cat(b(0, 252), number, rest, b(11))));
+                    Expect.same("its number", check.code(0, 1), 256 + second);
+                    Expect.same("behind it", check.code(0, 2), 11);
+                }
+            } else {
+                Expect.fault("252 " + second, 1,
+                    around(b(), b(), NO_LOCALS, cat(b(0, 252, M), u(second), b(0, 0, 0, 11))));
+            }
+        }
+        Expect.fault("252 4294967295", 1, around(b(), b(), NO_LOCALS, cat(b(0, 252, M), HIGHEST, b(0, 0, 11))));
+        Expect.fault("252 and no U", 1, around(b(), b(), NO_LOCALS, 0, 252, M, 138, 128, 128, 128, 16, 0, 0, 11));
     }
 
     /* ".. a row in an element segment or br_table above 256" */
