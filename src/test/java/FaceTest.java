@@ -10,6 +10,7 @@ public final class FaceTest {
         endCuts();
         placeOfLatest();
         wrongCalls();
+        exampleOfReadme();
         Expect.done("FaceTest");
     }
 
@@ -116,5 +117,18 @@ public final class FaceTest {
                 Expect.same("code(" + f + ", " + i + ")", check.code(f, i), due);
             }
         }
+    }
+
+    private static void exampleOfReadme() {
+        ModuleCheck modules = new ModuleCheck();
+        Expect.same("feed", modules.feed(0x0061736D, 0x01000000, 0x01060160, 0x017F017F, 0x03020100), 20);
+        Expect.same("feed again", modules.feed(0x0A090107, 0x00200041, 0x016A0B00, 0, 0), 40);
+        Expect.same("end", modules.end(31) ? 1 : 0, 1);
+        Expect.same("check", modules.check(), 0);
+        Expect.same("place", modules.place(), -1);
+        Expect.same("own functions", modules.count(3), 1);
+        Expect.same("instructions", modules.instructions(0), 4);
+        Expect.same("i32.add", modules.code(0, 2), 106);
+        Expect.same("locals", modules.locals(0), 1);
     }
 }
